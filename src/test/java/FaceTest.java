@@ -9,12 +9,30 @@ import java.util.TreeSet;
 
 /** The public face is the document's, and no other member can be seen from outside. */
 public final class FaceTest {
-    private static final String FACE = "at(int,int,int):int byteAt(int):int "
-            + "change(int,int,int,int,int):int clear():int levels():int load(int):int "
-            + "mean(int,int,int,int):int open():int opened(int):int pack(int,int,int):int "
-            + "poke(int,int):int put(int,int,int):int restore(int,int):boolean seam(int):int "
-            + "seamAt(int):int size(int,int):int strip(int,int,int):int turned(int,int,int):int "
-            + "zoom(int,int,int,int,int):int";
+    private static final String PLACE = "IndexOutOfBoundsException";
+    private static final String STATE = "IllegalStateException";
+    private static final String ARGUMENT = "IllegalArgumentException";
+    private static final String[] FACE = {
+        "at(int,int,int):int " + PLACE,
+        "byteAt(int):int " + PLACE,
+        "change(int,int,int,int,int):int " + PLACE + " " + ARGUMENT,
+        "clear():int",
+        "levels():int",
+        "load(int):int " + STATE + " " + ARGUMENT,
+        "mean(int,int,int,int):int " + PLACE,
+        "open():int",
+        "opened(int):int " + PLACE,
+        "pack(int,int,int):int " + PLACE,
+        "poke(int,int):int " + PLACE + " " + ARGUMENT,
+        "put(int,int,int):int " + PLACE + " " + ARGUMENT,
+        "restore(int,int):boolean " + PLACE + " " + STATE,
+        "seam(int):int " + ARGUMENT,
+        "seamAt(int):int " + PLACE,
+        "size(int,int):int " + PLACE,
+        "strip(int,int,int):int " + PLACE + " " + ARGUMENT,
+        "turned(int,int,int):int " + PLACE,
+        "zoom(int,int,int,int,int):int " + PLACE,
+    };
 
     public static void main(String[] args) {
         Class<TilePyramid> face = TilePyramid.class;
@@ -35,17 +53,26 @@ public final class FaceTest {
         Set<String> names = new HashSet<>();
         for (Method m : face.getDeclaredMethods()) {
             if (Modifier.isPublic(m.getModifiers())) {
-                seen.add(m.getName() + typesOf(m.getParameterTypes()) + ":" + m.getReturnType());
+                seen.add(textOf(m));
                 names.add(m.getName());
             }
         }
-        Check.same("the face", String.join(" ", seen), FACE);
+        Check.same("the face", String.join("\n", seen), String.join("\n", FACE));
         for (Method m : face.getDeclaredMethods()) {
             boolean isPublic = Modifier.isPublic(m.getModifiers());
             if (!isPublic && (!Modifier.isPrivate(m.getModifiers()) || names.contains(m.getName()))) {
                 Check.fault(m + " can be seen or bears a public name");
             }
         }
+    }
+
+    private static String textOf(Method m) {
+        StringBuilder text = new StringBuilder(m.getName() + typesOf(m.getParameterTypes()) + ":");
+        text.append(m.getReturnType());
+        for (Class<?> kind : m.getExceptionTypes()) {
+            text.append(' ').append(kind.getSimpleName());
+        }
+        return text.toString();
     }
 
     private static void fields(Class<?> face) {

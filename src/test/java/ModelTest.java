@@ -1,4 +1,3 @@
-import java.lang.reflect.InvocationTargetException;
 import java.lang.reflect.Method;
 import java.lang.reflect.Modifier;
 import java.util.ArrayList;
@@ -39,7 +38,7 @@ public final class ModelTest {
         name = "run " + run + " (" + givenWidth + ", " + givenHeight + ")";
     }
 
-    public static void main(String[] args) throws ReflectiveOperationException {
+    public static void main(String[] args) {
         for (Method m : TilePyramid.class.getDeclaredMethods()) {
             if (Modifier.isPublic(m.getModifiers())) {
                 METHODS.add(m);
@@ -72,7 +71,7 @@ public final class ModelTest {
         }
     }
 
-    private void play() throws ReflectiveOperationException {
+    private void play() {
         while (calls < CALLS) {
             int kind = random.nextInt(40);
             if (kind == 0 && calls + 100 < CALLS) {
@@ -92,7 +91,7 @@ public final class ModelTest {
         }
     }
 
-    private void any() throws ReflectiveOperationException {
+    private void any() {
         Method m = METHODS.get(random.nextInt(METHODS.size()));
         boolean far = random.nextInt(6) == 0;
         switch (m.getName()) {
@@ -116,7 +115,7 @@ public final class ModelTest {
     }
 
     /** A tile packed by the model, made wrong somewhere, with the sum that is right for it. */
-    private void forge() throws ReflectiveOperationException {
+    private void forge() {
         int spread = 1 << random.nextInt(9);
         int[][] tile = new int[1 + random.nextInt(8)][1 + random.nextInt(8)];
         for (int[] row : tile) {
@@ -143,21 +142,21 @@ public final class ModelTest {
         both("restore", random.nextInt(5), random.nextInt(5));
     }
 
-    private void scatter() throws ReflectiveOperationException {
+    private void scatter() {
         for (int k = 0; k < 25; k++) {
             both("put", random.nextInt(width), random.nextInt(height), random.nextInt(256));
             both("strip", random.nextInt(8), random.nextInt(height), random.nextInt(4));
         }
     }
 
-    private void seamWhole() throws ReflectiveOperationException {
+    private void seamWhole() {
         both("seam", 1 + random.nextInt(8));
         for (int row = 0; row < height; row++) {
             both("seamAt", row);
         }
     }
 
-    private void overfill() throws ReflectiveOperationException {
+    private void overfill() {
         both("clear");
         for (int k = 0; k < 257; k++) {
             both("load", random.nextInt(256));
@@ -195,13 +194,13 @@ public final class ModelTest {
         return from[random.nextInt(from.length)];
     }
 
-    private void both(String method, int... arguments) throws ReflectiveOperationException {
+    private void both(String method, int... arguments) {
         calls++;
-        String got = answer(object, method, arguments);
-        String due = answer(model, method, arguments);
+        String got = Counted.answerOf(object, method, arguments);
+        String due = Counted.answerOf(model, method, arguments);
         Check.same(name + " call " + calls + " " + method + Arrays.toString(arguments), got, due);
-        boolean threw = due.startsWith("java");
-        count(method + " " + (threw ? due.substring(due.lastIndexOf('.') + 1) : "answer"));
+        boolean threw = due.endsWith("Exception");
+        count(method + " " + (threw ? due : "answer"));
         if (method.equals("open")) {
             count("open " + (due.equals("-1") ? "NONE" : due.equals("0") ? "0" : "tile"));
         }
@@ -212,17 +211,5 @@ public final class ModelTest {
 
     private static void count(String what) {
         SEEN.merge(what, 1, Integer::sum);
-    }
-
-    private static String answer(Object of, String method, int[] arguments)
-            throws ReflectiveOperationException {
-        Class<?>[] types = new Class<?>[arguments.length];
-        Arrays.fill(types, int.class);
-        Object[] boxed = Arrays.stream(arguments).boxed().toArray();
-        try {
-            return String.valueOf(of.getClass().getMethod(method, types).invoke(of, boxed));
-        } catch (InvocationTargetException e) {
-            return e.getCause().getClass().getName();
-        }
     }
 }
