@@ -213,7 +213,10 @@ public final class TilePyramid {
         return index >= 0 && index < count;
     }
 
-    /** Euclid needs below 32 steps for numbers of a picture's size, so the bound is never met. */
+    /**
+     * Euclid needs below 32 steps for numbers of a picture's size, so the bound is never met. The answer is
+     * at least 1 where b is, as the number of samples under a place is, so that it can divide.
+     */
     private static int greatestDivisor(int a, int b) {
         int divisor = a;
         int rest = b;
@@ -272,7 +275,10 @@ public final class TilePyramid {
         }
     }
 
-    /** The levels over a picture; their samples are worked out from the picture when asked for. */
+    /**
+     * The levels over a picture; their samples are worked out from the picture when asked for. Whoever asks
+     * has tested that the place exists: then at least one sample lies under it, and their number can divide.
+     */
     private static final class Pyramid {
         final Picture base;
         final int count;
