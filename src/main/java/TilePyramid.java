@@ -214,8 +214,8 @@ public final class TilePyramid {
     }
 
     /**
-     * Euclid needs below 32 steps for numbers of a picture's size, so the bound is never met. The answer is
-     * at least 1 where b is, as the number of samples under a place is, so that it can divide.
+     * Euclid needs below 32 steps for numbers of a picture's size, so the bound is never met. At least 1,
+     * so that whoever asks can divide by it.
      */
     private static int greatestDivisor(int a, int b) {
         int divisor = a;
@@ -225,7 +225,7 @@ public final class TilePyramid {
             divisor = rest;
             rest = next;
         }
-        return divisor;
+        return Math.max(1, divisor);
     }
 
     private static int bitsNeeded(int number) {
@@ -275,10 +275,7 @@ public final class TilePyramid {
         }
     }
 
-    /**
-     * The levels over a picture; their samples are worked out from the picture when asked for. Whoever asks
-     * has tested that the place exists: then at least one sample lies under it, and their number can divide.
-     */
+    /** The levels over a picture; their samples are worked out from the picture when asked for. */
     private static final class Pyramid {
         final Picture base;
         final int count;
@@ -328,8 +325,9 @@ public final class TilePyramid {
             return Math.min(TILE_SIDE, rowsOf(level) - TILE_SIDE * j);
         }
 
+        /** At least 1 lies under each place there is; never less, so that it can divide. */
         int countUnder(int level, int x, int y) {
-            return reach(level, x, base.columns) * reach(level, y, base.rows);
+            return Math.max(1, reach(level, x, base.columns) * reach(level, y, base.rows));
         }
 
         int totalUnder(int level, int x, int y) {
